@@ -1,3 +1,6 @@
+import java.util.ArrayList;
+import java.util.List;
+
 /** Promises 16 to 18: undo and the slots; and what is recorded. */
 public final class HistoryTest {
     private static final String FLAT = SetUpTest.FLAT;
@@ -48,6 +51,175 @@ public final class HistoryTest {
                 total(3) = 5
                 undo() = NOT_POSSIBLE
                 """);
+    }
+
+    private static void eachIsTakenBack(Due due) {
+        Script.played(due, "promise 16, each call", FLAT + """
+                start(100) = 5
+                undo() = 3
+                total(0) = 0
+                total(5) = 1
+                driveAt(0) = NONE
+                start(100) = 5
+                step(2) = 2
+                undo() = 4
+                total(8) = 0
+                total(0) = 1
+                step(2) = 2
+                hold(true) = 2
+                undo() = 4
+                total(0) = 1
+                total(8) = 2
+                hold(true) = 2
+                hold(false) = 2
+                undo() = 4
+                total(0) = 2
+                abort() = 2
+                undo() = 4
+                total(0) = 2
+                total(10) = NONE
+                set(5, 4) = 1
+                undo() = 4
+                total(19) = 1
+                addNotch(0, 100, 150, 9) = 0
+                undo() = 4
+                channel(0, 3) = 0
+                limit(0, 100) = NONE
+                setMode(0, 2, 100, 9, 9) = 1009
+                undo() = 4
+                gain(0, 100) = 1000
+                """);
+        Script.played(due, "promise 16, lines and profile", FLAT + """
+                setLines(20, 60, 300) = 5
+                setPoint(100, 7) = 1
+                setPoint(50, 8) = 2
+                undo() = 4
+                target(50) = 7
+                undo() = 3
+                target(50) = 500
+                frequency(0) = 20
+                undo() = 2
+                frequency(0) = 100
+                frequency(4) = 146
+                """);
+        Script.played(due, "promise 16, a call that reports an error behind five that do not", """
+                set(1, 2) = 1
+                set(1, 3) = 2
+                set(1, 4) = 3
+                set(1, 5) = 4
+                set(1, 6) = 5
+                set(1, 0) = BAD_VALUE
+                step(1) = NOT_POSSIBLE
+                start(1) = REFUSED
+                undo() = 4
+                undo() = 3
+                undo() = 2
+                undo() = 1
+                total(15) = 2
+                undo() = 0
+                total(15) = 1
+                """);
+    }
+
+    /** All that can be looked at of a state. */
+    private static List<Integer> seen(ShakerSweep object) {
+        List<Integer> answers = new ArrayList<>();
+        for (int property = 0; property < 20; property++) {
+            boolean ofState = property != 12 && property != 13;
+            answers.add(ofState ? object.total(property) : 0);
+        }
+        for (int frequency = 1; frequency <= 200; frequency++) {
+            answers.add(object.target(frequency));
+            for (int channel = 0; channel < 4; channel++) {
+                answers.add(object.gain(channel, frequency));
+                answers.add(object.limit(channel, frequency));
+            }
+        }
+        for (int line = 0; line < 12; line++) {
+            answers.add(object.frequency(line));
+            answers.add(object.controlGain(line));
+            answers.add(object.driveAt(line));
+            answers.add(object.notchedBy(line));
+            for (int channel = 0; channel < 4; channel++) {
+                answers.add(object.level(line, channel));
+                answers.add(object.averaged(line, channel));
+            }
+        }
+        for (int channel = 0; channel < 4; channel++) {
+            for (int property = 0; property < 8; property++) {
+                answers.add(object.channel(channel, property));
+            }
+            answers.add(object.resonance(channel, 0));
+            answers.add(object.highest(channel, 9));
+        }
+        answers.add(object.loopsLeft());
+        answers.add(object.wouldAbort(99));
+        return answers;
+    }
+
+    /** A state that holds: downwards, in the second sweep, above its limits and notched. */
+    private static final String HOLDING = """
+            setLines(100, 150, 100) = 5
+            setPoint(100, 500) = 1
+            setPoint(130, 400) = 2
+            addChannel(true, 1000, 200000) = 0
+            addChannel(false, 1500, 160) = 1
+            addChannel(false, 300, 200000) = 2
+            setMode(1, 0, 133, 20, 700) = 2200
+            setMode(1, 2, 100, 5, 90) = 1778
+            addNotch(1, 90, 125, 260) = 0
+            addNotch(1, 120, 150, 110) = 1
+            addNotch(2, 1, 2000, 30) = 0
+            set(0, 1) = 0
+            set(1, 3) = 1
+            set(2, 5) = 1
+            set(3, 40) = 25
+            set(4, 60) = 50
+            set(5, 4) = 1
+            start(70) = 5
+            step(6) = 6
+            hold(true) = 2
+            addNotch(1, 121, 121, 90) = 2
+            start(70) = REFUSED
+            step(1) = 1
+            """;
+
+    /** A state that was aborted by a channel. */
+    private static final String ABORTED = """
+            addChannel(false, 1000, 130) = 0
+            addChannel(false, 1000, 120) = 1
+            addChannel(true, 1200, 200000) = 2
+            addNotch(0, 1, 2000, 150) = 0
+            setPoint(7, 90) = 1
+            setPoint(50, 900) = 2
+            setPoint(70, 300) = 3
+            setLines(20, 50, 200) = 6
+            setMode(2, 1, 41, 3, 1000) = 2200
+            set(2, 2) = 1
+            start(160) = 6
+            step(40) = 10
+            """;
+
+    private static void wholeStates(Due due) {
+        Script script = Script.played(due, "promises 16 to 18, whole states", "save(0) = 0");
+        List<Integer> empty = seen(script.object());
+        List<Integer> holding = seen(script.play(HOLDING + "save(1) = 2").object());
+        List<Integer> aborted = seen(script.play("restore(0) = 0\n" + ABORTED
+                + "save(0) = 4").object());
+        script.play("restore(1) = 2");
+        due.holds("a holding state is restored", seen(script.object()).equals(holding));
+        script.play("restore(0) = 4");
+        due.holds("an aborted state is restored", seen(script.object()).equals(aborted));
+        script.play("undo() = 4");
+        due.holds("a holding state comes back", seen(script.object()).equals(holding));
+        script.play("undo() = 3");
+        due.holds("an aborted state comes back", seen(script.object()).equals(aborted));
+        Script straight = Script.played(due, "promise 18, a run that was not left", HOLDING);
+        String goingOn = "hold(false) = 2\n step(3) = 3";
+        due.holds("it goes on as if it had not been left",
+                seen(script.play("restore(1) = 2\n" + goingOn).object())
+                        .equals(seen(straight.play(goingOn).object())));
+        due.holds("the first state is another", !empty.equals(holding) && !empty.equals(aborted));
     }
 
     private static void everythingComesBack(Due due) {
@@ -284,6 +456,8 @@ public final class HistoryTest {
     public static void main(String[] args) {
         Due due = new Due("HistoryTest");
         undoing(due);
+        eachIsTakenBack(due);
+        wholeStates(due);
         everythingComesBack(due);
         whatIsRecorded(due);
         slots(due);

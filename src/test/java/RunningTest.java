@@ -51,6 +51,41 @@ public final class RunningTest {
                 """);
     }
 
+    private static void startingWithAll(Due due) {
+        Script.played(due, "promise 8, six channels and a hundred lines", """
+                setLines(5, 104, 10) = 100
+                setPoint(100, 500) = 1
+                """ + sixMonitors() + """
+                start(100) = REFUSED
+                total(11) = 4
+                undo() = 4
+                addChannel(true, 1000, 200000) = 5
+                start(100) = 100
+                step(50) = 50
+                step(50) = 50
+                total(0) = 5
+                level(99, 5) = 500
+                setMode(0, 0, 104, 1, 1000) = 2000
+                start(100) = 100
+                step(50) = 50
+                step(50) = 50
+                resonance(0, 0) = 99
+                resonance(0, 1) = NONE
+                resonance(5, 0) = NONE
+                setLines(5, 104, 10) = 100
+                averaged(99, 5) = NONE
+                resonance(0, 0) = NONE
+                """);
+    }
+
+    private static String sixMonitors() {
+        StringBuilder rows = new StringBuilder();
+        for (int channel = 0; channel < 6; channel++) {
+            rows.append("addChannel(false, 1000, 200000) = ").append(channel).append('\n');
+        }
+        return rows.toString();
+    }
+
     private static void startingAnew(Due due) {
         Script.played(due, "promise 8, what is forgotten", FLAT + """
                 addChannel(false, 2000, 250) = 1
@@ -260,6 +295,35 @@ public final class RunningTest {
                 step(1) = 1
                 driveAt(1) = 70
                 """);
+        Script.played(due, "promise 9, a control level of 1 and a control gain of 1", """
+                setLines(100, 150, 100) = 5
+                setPoint(100, 1) = 1
+                addChannel(true, 1, 200000) = 0
+                start(1000) = 5
+                step(1) = 1
+                # 1000 * 1 / 1, not twice 1000
+                driveAt(1) = 1000
+                hold(true) = 1
+                step(1) = 1
+                driveAt(1) = 1000
+                set(1, 8) = 1
+                setMode(0, 0, 110, 1, 1) = 2
+                step(1) = 1
+                level(1, 0) = 2
+                controlGain(1) = 1
+                # 1 * 1000 / 1, not 1000 * 1 / 2
+                driveAt(1) = 1000
+                """);
+        Script.played(due, "promise 9, without a control level by the maximum", """
+                setLines(100, 150, 100) = 5
+                setPoint(110, 105) = 1
+                addChannel(true, 0, 200000) = 0
+                set(0, 1) = 0
+                start(5) = 5
+                step(1) = 1
+                controlGain(0) = 0
+                driveAt(1) = 7
+                """);
         Script.played(due, "promise 9, without a control level", """
                 setLines(100, 150, 100) = 5
                 setPoint(110, 105) = 1
@@ -357,6 +421,16 @@ public final class RunningTest {
                 level(1, 2) = 300
                 notchedBy(2) = NONE
                 driveAt(2) = 94
+                """);
+        Script.played(due, "promise 9, a notch with a gain of 1", """
+                setLines(100, 150, 100) = 5
+                setPoint(100, 50000) = 1
+                addChannel(true, 1, 200000) = 0
+                addNotch(0, 110, 110, 1) = 0
+                start(1000) = 5
+                step(1) = 1
+                driveAt(1) = 1000
+                notchedBy(1) = 0
                 """);
         Script.played(due, "promise 9, a line that is notched no longer", FLAT + """
                 addChannel(false, 500, 200000) = 1
@@ -634,6 +708,7 @@ public final class RunningTest {
     public static void main(String[] args) {
         Due due = new Due("RunningTest");
         starting(due);
+        startingWithAll(due);
         startingAnew(due);
         stepping(due);
         levelsAndGains(due);

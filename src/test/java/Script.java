@@ -21,6 +21,10 @@ final class Script {
         return new Script(due, name).play(rows);
     }
 
+    ShakerSweep object() {
+        return object;
+    }
+
     Script play(String rows) {
         for (String row : rows.split("\n")) {
             String call = row.strip();

@@ -1,6 +1,6 @@
 /** Promises 1 to 7: a new object; lines, profile, channels, settings. */
 public final class SetUpTest {
-    /** Five lines (100, 110, 121, 133, 146), a flat profile and a control channel: ready to start. */
+    /** Lines (100, 110, 121, 133, 146), a flat profile and a control channel: ready to start. */
     static final String FLAT = """
             setLines(100, 150, 100) = 5
             setPoint(100, 500) = 1
@@ -217,12 +217,34 @@ public final class SetUpTest {
                 setPoint(101, 1) = 7
                 setPoint(99, 1) = 8
                 setPoint(98, 1) = FULL
+                setPoint(1999, 1) = FULL
                 setPoint(2000, 9) = 8
                 setPoint(1, 9) = 8
                 target(2000) = 9
                 target(1) = 9
                 target(98) = 4
                 total(4) = 8
+                """);
+        Script.played(due, "promise 3, above all points", """
+                setPoint(1, 1) = 1
+                setPoint(2, 1) = 2
+                setPoint(3, 1) = 3
+                setPoint(4, 1) = 4
+                setPoint(5, 1) = 5
+                setPoint(6, 1) = 6
+                setPoint(7, 1) = 7
+                setPoint(8, 1) = 8
+                setPoint(9, 1) = FULL
+                setPoint(2000, 1) = FULL
+                setPoint(8, 2) = 8
+                target(9) = 2
+                undo() = 4
+                undo() = 3
+                undo() = 2
+                # the point that was undone is not there any more
+                target(8) = 1
+                setPoint(7, 5) = 7
+                target(8) = 5
                 """);
         Script.played(due, "promise 3, in the states that rest", FLAT + """
                 start(100) = 5
@@ -282,6 +304,24 @@ public final class SetUpTest {
                 gain(5, 10) = 9
                 limit(5, 5) = NONE
                 channel(5, 3) = 0
+                """);
+        Script.played(due, "promise 4, in the place of a channel that is gone", """
+                save(0) = 0
+                addChannel(true, 3, 4) = 0
+                setMode(0, 0, 10, 5, 100) = 103
+                setMode(0, 2, 20, 5, 100) = 123
+                addNotch(0, 1, 9, 8) = 0
+                addNotch(0, 10, 20, 8) = 1
+                restore(0) = 0
+                total(5) = 0
+                addChannel(false, 9, 9) = 0
+                channel(0, 0) = 0
+                channel(0, 3) = 0
+                gain(0, 10) = 9
+                gain(0, 20) = 9
+                limit(0, 5) = NONE
+                addNotch(0, 30, 30, 5) = 0
+                limit(0, 10) = NONE
                 """);
         Script.played(due, "promise 4, after a run", FLAT + """
                 start(100) = 5
