@@ -190,6 +190,7 @@ public final class HistoryTest {
             addChannel(false, 1000, 120) = 1
             addChannel(true, 1200, 200000) = 2
             addNotch(0, 1, 2000, 150) = 0
+            addNotch(1, 60, 70, 55) = 0
             setPoint(7, 90) = 1
             setPoint(50, 900) = 2
             setPoint(70, 300) = 3

@@ -56,6 +56,10 @@ public final class RandomRunsTest {
         return in(least, greatest);
     }
 
+    private static int bounded(int frequency) {
+        return Math.max(1, Math.min(frequency, 2000));
+    }
+
     /** Small numbers are as likely as great ones. */
     private int scaled(int greatest) {
         return chance(5) ? near(1, greatest) : 1 + random.nextInt(1 + random.nextInt(greatest));
@@ -78,7 +82,7 @@ public final class RandomRunsTest {
 
     private void setLines() {
         int low = chance(80) ? in(5, 60) : near(5, 1000);
-        int high = chance(80) ? in(0, 80) + low : near(Math.min(low, 2000), 2000);
+        int high = chance(80) ? in(0, 80) + low : near(bounded(low), 2000);
         int rate = chance(80) ? in(50, 400) : near(10, 1000);
         is("setLines(" + low + ", " + high + ", " + rate + ")",
                 program.setLines(low, high, rate), model.setLines(low, high, rate));
@@ -113,7 +117,7 @@ public final class RandomRunsTest {
     private void addNotch() {
         int channel = channel();
         int from = frequencyNearLines();
-        int to = chance(80) ? from + in(0, 30) : near(Math.min(from, 2000), 2000);
+        int to = chance(80) ? from + in(0, 30) : near(bounded(from), 2000);
         int limit = chance(80) ? scaled(5000) : near(1, 200000);
         is("addNotch(" + channel + ", " + from + ", " + to + ", " + limit + ")",
                 program.addNotch(channel, from, to, limit),
