@@ -253,8 +253,11 @@ public final class RandomRunsTest {
     }
 
     private void play() {
-        for (int first = 0; first < 12; first++) {
-            change(new int[] {0, 1, 2, 1, 2, 3, 3, 4, 4, 5, 1, 6}[first]);
+        // Most runs are made ready first; the others show what comes of starting bare.
+        int[] first = {0, 1, 2, 1, 2, 3, 3, 4, 4, 5, 1, 6};
+        int made = chance(80) ? first.length : in(0, 5);
+        for (int call = 0; call < made; call++) {
+            change(first[call]);
         }
         int calmness = in(20, 60);
         for (int call = 0; call < CALLS; call++) {
