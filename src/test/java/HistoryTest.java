@@ -1,4 +1,3 @@
-import java.util.ArrayList;
 import java.util.List;
 
 /** Promises 16 to 18: undo and the slots; and what is recorded. */
@@ -121,44 +120,8 @@ public final class HistoryTest {
                 """);
     }
 
-    /** All that can be looked at of a state. */
-    private static List<Integer> seen(ShakerSweep object) {
-        List<Integer> answers = new ArrayList<>();
-        for (int property = 0; property < 20; property++) {
-            boolean ofState = property != 12 && property != 13;
-            answers.add(ofState ? object.total(property) : 0);
-        }
-        for (int frequency = 1; frequency <= 200; frequency++) {
-            answers.add(object.target(frequency));
-            for (int channel = 0; channel < 4; channel++) {
-                answers.add(object.gain(channel, frequency));
-                answers.add(object.limit(channel, frequency));
-            }
-        }
-        for (int line = 0; line < 12; line++) {
-            answers.add(object.frequency(line));
-            answers.add(object.controlGain(line));
-            answers.add(object.driveAt(line));
-            answers.add(object.notchedBy(line));
-            for (int channel = 0; channel < 4; channel++) {
-                answers.add(object.level(line, channel));
-                answers.add(object.averaged(line, channel));
-            }
-        }
-        for (int channel = 0; channel < 4; channel++) {
-            for (int property = 0; property < 8; property++) {
-                answers.add(object.channel(channel, property));
-            }
-            answers.add(object.resonance(channel, 0));
-            answers.add(object.highest(channel, 9));
-        }
-        answers.add(object.loopsLeft());
-        answers.add(object.wouldAbort(99));
-        return answers;
-    }
-
     /** A state that holds: downwards, in the second sweep, above its limits and notched. */
-    private static final String HOLDING = """
+    static final String HOLDING = """
             setLines(100, 150, 100) = 5
             setPoint(100, 500) = 1
             setPoint(130, 400) = 2
@@ -185,7 +148,7 @@ public final class HistoryTest {
             """;
 
     /** A state that was aborted by a channel. */
-    private static final String ABORTED = """
+    static final String ABORTED = """
             addChannel(false, 1000, 130) = 0
             addChannel(false, 1000, 120) = 1
             addChannel(true, 1200, 200000) = 2
@@ -203,23 +166,23 @@ public final class HistoryTest {
 
     private static void wholeStates(Due due) {
         Script script = Script.played(due, "promises 16 to 18, whole states", "save(0) = 0");
-        List<Integer> empty = seen(script.object());
-        List<Integer> holding = seen(script.play(HOLDING + "save(1) = 2").object());
-        List<Integer> aborted = seen(script.play("restore(0) = 0\n" + ABORTED
+        List<Integer> empty = Seen.ofState(script.object());
+        List<Integer> holding = Seen.ofState(script.play(HOLDING + "save(1) = 2").object());
+        List<Integer> aborted = Seen.ofState(script.play("restore(0) = 0\n" + ABORTED
                 + "save(0) = 4").object());
         script.play("restore(1) = 2");
-        due.holds("a holding state is restored", seen(script.object()).equals(holding));
+        due.holds("a holding state is restored", Seen.ofState(script.object()).equals(holding));
         script.play("restore(0) = 4");
-        due.holds("an aborted state is restored", seen(script.object()).equals(aborted));
+        due.holds("an aborted state is restored", Seen.ofState(script.object()).equals(aborted));
         script.play("undo() = 4");
-        due.holds("a holding state comes back", seen(script.object()).equals(holding));
+        due.holds("a holding state comes back", Seen.ofState(script.object()).equals(holding));
         script.play("undo() = 3");
-        due.holds("an aborted state comes back", seen(script.object()).equals(aborted));
+        due.holds("an aborted state comes back", Seen.ofState(script.object()).equals(aborted));
         Script straight = Script.played(due, "promise 18, a run that was not left", HOLDING);
         String goingOn = "hold(false) = 2\n step(3) = 3";
         due.holds("it goes on as if it had not been left",
-                seen(script.play("restore(1) = 2\n" + goingOn).object())
-                        .equals(seen(straight.play(goingOn).object())));
+                Seen.ofState(script.play("restore(1) = 2\n" + goingOn).object())
+                        .equals(Seen.ofState(straight.play(goingOn).object())));
         due.holds("the first state is another", !empty.equals(holding) && !empty.equals(aborted));
     }
 

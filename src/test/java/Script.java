@@ -1,15 +1,20 @@
 import java.lang.reflect.Method;
+import java.util.List;
 
 /**
  * Plays rows of calls on a new object, each with the answer that is due, as in
  * {@code setLines(10, 40, 200) = 9} or {@code undo() = NOT_POSSIBLE}. The row
- * {@code type h;r;} appends a text, byte by byte. A row may stand behind a number of times, as in
- * {@code 3x step(1) = 1}. Empty rows and rows behind a # are passed over.
+ * {@code type h;r;} appends a text, byte by byte; {@code fault of h;r = 3} puts a text in place of
+ * the one there is and asks for its fault position. A row may stand behind a number of times, as in
+ * {@code 3x step(1) = 1}, or behind {@code same}: then nothing that can be seen may become different
+ * by it. Behind a row {@code remember}, a row {@code as remembered} asks whether all that can be
+ * seen of the state is as it was there. Empty rows and rows behind a # are passed over.
  */
 final class Script {
     private final Due due;
     private final String name;
     private final ShakerSweep object = new ShakerSweep();
+    private List<Integer> remembered = List.of();
 
     Script(Due due, String name) {
         this.due = due;
@@ -38,20 +43,39 @@ final class Script {
     private void playRow(String row) {
         if (row.startsWith("type ")) {
             type(row.substring(5));
-            return;
-        }
-        if (row.matches("[0-9]+x .*")) {
+        } else if (row.startsWith("fault of ")) {
+            playFault(row);
+        } else if (row.startsWith("same ")) {
+            List<Integer> before = Seen.ofObject(object);
+            playRow(row.substring(5));
+            due.holds(name + ": not the " + row, Seen.ofObject(object).equals(before));
+        } else if (row.equals("remember")) {
+            remembered = Seen.ofState(object);
+        } else if (row.equals("as remembered")) {
+            due.holds(name + ": not " + row, Seen.ofState(object).equals(remembered));
+        } else if (row.matches("[0-9]+x .*")) {
             int times = Integer.parseInt(row.substring(0, row.indexOf('x')));
             for (int time = 0; time < times; time++) {
                 playRow(row.substring(row.indexOf(' ') + 1));
             }
-            return;
+        } else {
+            playCall(row);
         }
+    }
+
+    private void playCall(String row) {
         String[] sides = row.split(" = ");
         String method = sides[0].substring(0, sides[0].indexOf('('));
         String inside = sides[0].substring(sides[0].indexOf('(') + 1, sides[0].indexOf(')'));
         String[] arguments = inside.isEmpty() ? new String[0] : inside.split(", ");
         due.is(name + ": " + sides[0], call(method, arguments), value(sides[1]));
+    }
+
+    private void playFault(String row) {
+        int answer = row.lastIndexOf(" = ");
+        object.clearText();
+        type(row.substring(Math.min("fault of ".length(), answer), answer));
+        due.is(name + ": " + row, object.faultPosition(), value(row.substring(answer + 3)));
     }
 
     private void type(String text) {
