@@ -1149,6 +1149,9 @@ public final class ShakerSweep {
                 rampDown();
                 return;
             }
+            if (!hasLine(line)) {
+                return;
+            }
             int frequency = lines.frequencies[line];
             int controlLevel = measureLevels(frequency);
             int offender = countLoop(frequency);

@@ -197,10 +197,13 @@ final class EdgesOfActs {
     private static void recordedAsOne(Edges edges) {
         edges.sentence("Recorded, as one call", FLAT + """
                 type c1=2;c1=3;c1=4;
+                remember
                 run() = 3
                 total(12) = 4
+                total(15) = 4
                 undo() = 3
                 total(15) = 1
+                as remembered
                 """, """
                 # also without an act, and if the first act is an error
                 run() = 0

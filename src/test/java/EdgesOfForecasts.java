@@ -103,6 +103,14 @@ final class EdgesOfForecasts {
                 # while it is held at line 0 the drive rises, too
                 wouldAbort(300) = 2
                 total(8) = 0
+                """, FLAT + """
+                addChannel(false, 0, 1000) = 1
+                setMode(1, 0, 121, 1, 50000) = 50000
+                start(100) = 5
+                wouldAbort(300) = 1
+                # held at line 0, it does not come to line 2
+                hold(true) = 0
+                wouldAbort(300) = NONE
                 """, """
                 setLines(100, 150, 100) = 5
                 setPoint(100, 500) = 1

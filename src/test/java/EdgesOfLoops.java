@@ -153,12 +153,14 @@ final class EdgesOfLoops {
                 addChannel(true, 1500, 200000) = 0
                 addChannel(false, 333, 200000) = 1
                 addChannel(false, 334, 200000) = 2
+                addChannel(false, 667, 200000) = 3
                 start(3) = 5
                 step(1) = 1
-                # levels of 4, 0 and 1 with a drive of 3
+                # levels of 4, 0, 1 and 2 with a drive of 3
                 averaged(0, 0) = 1333
                 averaged(0, 1) = 0
                 averaged(0, 2) = 333
+                averaged(0, 3) = 666
                 """, GREATEST_DRIVE + """
                 setMode(1, 0, 100, 500, 50000) = 50000
                 step(1) = 1
@@ -718,6 +720,24 @@ final class EdgesOfLoops {
                 # a g of 1
                 averaged(0, 0) = 1
                 driveAt(1) = 1000
+                """, """
+                setLines(100, 150, 100) = 5
+                setPoint(100, 50000) = 1
+                addChannel(true, 1000, 200000) = 0
+                addChannel(false, 0, 200000) = 1
+                addNotch(1, 110, 110, 1) = 0
+                start(1000) = 5
+                step(1) = 1
+                # a g of 0 with a drive above 1000
+                driveAt(1) = 1251
+                """, FLAT + """
+                addNotch(0, 110, 110, 126) = 0
+                addNotch(0, 121, 121, 200000) = 1
+                start(100) = 5
+                step(2) = 2
+                # it is not higher: it is neither lowered nor raised
+                driveAt(1) = 126
+                driveAt(2) = 158
                 """);
     }
 
@@ -770,6 +790,29 @@ final class EdgesOfLoops {
                 # it would rise again, and is lowered again
                 driveAt(0) = 99
                 notchedBy(0) = 0
+                """, FLAT + """
+                addNotch(0, 110, 110, 99) = 0
+                set(5, 3) = 1
+                start(30) = 5
+                step(1) = 1
+                notchedBy(1) = NONE
+                step(7) = 7
+                # at the second time it is notched
+                total(1) = 0
+                notchedBy(1) = 0
+                """, FLAT + """
+                addChannel(false, 500, 200000) = 1
+                setMode(1, 0, 100, 1, 1500) = 2000
+                addNotch(1, 100, 100, 200) = 0
+                start(100) = 5
+                hold(true) = 0
+                step(1) = 1
+                notchedBy(0) = 1
+                setMode(1, 0, 100, 1, 0) = 500
+                step(1) = 1
+                # and here no longer
+                driveAt(0) = 126
+                notchedBy(0) = NONE
                 """);
     }
 

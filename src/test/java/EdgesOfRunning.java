@@ -315,6 +315,8 @@ final class EdgesOfRunning {
                 total(0) = 5
                 total(10) = NONE
                 start(100) = 5
+                hold(true) = 0
+                # it neither rests nor is aborting
                 abort() = 0
                 abort() = NOT_POSSIBLE
                 step(6) = 6

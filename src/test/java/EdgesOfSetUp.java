@@ -719,6 +719,12 @@ final class EdgesOfSetUp {
                 total(15) = 1
                 undo() = 1
                 total(14) = 0
+                """, FLAT + """
+                set(1, 3) = 1
+                set(1, 4) = 3
+                undo() = 4
+                total(15) = 3
+                total(3) = 5
                 """);
         edges.sentence("`setting`: 0 to 5", """
                 set(-1, 1) = BAD_INDEX

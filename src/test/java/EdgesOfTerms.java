@@ -308,10 +308,12 @@ final class EdgesOfTerms {
                 setMode(0, 1, 1, 1, 5) = 12
                 setMode(0, 1, 1, 1, 0) = 7
                 """, """
+                # not even in the place of a channel that had others
+                save(0) = 0
                 addChannel(true, 5000, 9) = 0
-                setMode(0, 2, 1, 500, 50000) = 55000
-                undo() = 1
-                undo() = 0
+                setMode(0, 0, 1, 500, 50000) = 55000
+                setMode(0, 2, 1, 500, 50000) = 105000
+                restore(0) = 0
                 addChannel(true, 8, 9) = 0
                 gain(0, 1) = 8
                 """);

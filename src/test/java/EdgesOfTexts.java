@@ -528,10 +528,13 @@ final class EdgesOfTexts {
                 same addChannel(true, 1, 1) = NOT_POSSIBLE
                 start(100) = REFUSED
                 total(11) = 1
+                step(1) = 1
+                # the reason is 1 already
                 same start(100) = REFUSED
+                same start(1001) = BAD_VALUE
                 total(0) = 1
-                total(1) = 2
-                abort() = 2
+                total(1) = 3
+                abort() = 3
                 same abort() = NOT_POSSIBLE
                 """, """
                 start(1) = REFUSED
