@@ -1191,14 +1191,14 @@ public final class ShakerSweep {
             int controls = 0;
             int sum = 0;
             int greatest = 0;
-            int least = Integer.MAX_VALUE;
+            int least = 0;
             for (int channel = 0; channel < channelCount; channel++) {
                 if (channels[channel].control) {
                     int level = channels[channel].latestLevel;
-                    controls++;
                     sum += level;
                     greatest = Math.max(greatest, level);
-                    least = Math.min(least, level);
+                    least = controls == 0 ? level : Math.min(least, level);
+                    controls++;
                 }
             }
             if (settings[STRATEGY] == MAXIMUM) {

@@ -27,6 +27,10 @@ public final class LanguageTest {
         {"13", "\\b(Random|Thread|Runtime|Date|Instant|Clock|Files?|nanoTime)\\b"},
     };
 
+    /** Rule 4: the library's classes that may be named, beside the classes of the program. */
+    private static final Set<String> LIBRARY = Set.of("Arrays", "System", "Math", "Integer", "Long",
+            "String", "StringBuilder", "ArrayList", "List", "Iterator", "Iterable", "Comparable");
+
     private static String code(String source) {
         return source.replaceAll("(?s)/\\*.*?\\*/", "").replaceAll("//[^\n]*", "");
     }
@@ -39,13 +43,52 @@ public final class LanguageTest {
         }
     }
 
-    /** Rule 11: methods stay short. */
-    private static void lengths(Due due, String code) {
+    /** Rule 4: no name of the library but those it lists. */
+    private static void names(Due due, String code) {
+        Set<String> own = new TreeSet<>(Set.of("ShakerSweep"));
+        Arrays.stream(ShakerSweep.class.getDeclaredClasses())
+                .forEach(inside -> own.add(inside.getSimpleName()));
+        Matcher name = Pattern.compile("\\b[A-Z]\\w*[a-z]\\w*").matcher(code);
+        while (name.find()) {
+            due.holds("rule 4: " + name.group(),
+                    own.contains(name.group()) || LIBRARY.contains(name.group()));
+        }
+        Matcher use = Pattern.compile("\\b(Integer|Long|Math)\\.(\\w+)(\\(?)").matcher(code);
+        while (use.find()) {
+            due.holds("rule 4: " + use.group(), use.group(3).equals("(")
+                    && isOverWholeNumbers("java.lang." + use.group(1), use.group(2)));
+        }
+    }
+
+    /** Rule 4: of Integer, Long and Math just the static functions over int and long. */
+    private static boolean isOverWholeNumbers(String owner, String name) {
+        try {
+            return Arrays.stream(Class.forName(owner).getMethods())
+                    .filter(method -> method.getName().equals(name))
+                    .filter(method -> Modifier.isStatic(method.getModifiers()))
+                    .anyMatch(method -> isWhole(method.getReturnType())
+                            && Arrays.stream(method.getParameterTypes())
+                                    .allMatch(LanguageTest::isWhole));
+        } catch (ClassNotFoundException e) {
+            return false;
+        }
+    }
+
+    private static boolean isWhole(Class<?> type) {
+        return type == int.class || type == long.class;
+    }
+
+    /** Rule 11: methods stay short. What a run makes: no method but a constructor makes anything. */
+    private static void bodies(Due due, String code) {
         Matcher method = Pattern.compile("(?ms)^( {4}| {8})(\\w[^\n;=]*\\)) \\{\n.*?^\\1\\}").matcher(code);
         int methods = 0;
         while (method.find()) {
             methods++;
-            due.holds("rule 11: long: " + method.group(2), method.group().split("\n").length <= 60);
+            String head = method.group(2);
+            boolean constructor = head.matches("(public )?[A-Z]\\w*\\(.*");
+            due.holds("rule 11: long: " + head, method.group().split("\n").length <= 60);
+            due.holds("makes an object: " + head,
+                    constructor || !method.group().matches("(?s).*\\bnew\\b.*"));
         }
         due.holds("only " + methods + " methods are seen", methods > 80);
     }
@@ -91,7 +134,8 @@ public final class LanguageTest {
         due.is("the calls of the face", open.size(), 32);
         String code = code(Files.readString(SOURCE));
         source(due, code);
-        lengths(due, code);
+        names(due, code);
+        bodies(due, code);
         classes(due, open);
         due.end();
     }
